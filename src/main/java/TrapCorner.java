@@ -1653,12 +1653,12 @@ public final class TrapCorner {
                 int length = town.walkLength(i, s.way[i]);
                 for (int k = 0; k < length && at[i] == NONE; k++) {
                     corner = town.beyond(corner, s.way[i]);
-                    spring(i, corner, meets(s, i, corner));
+                    snaps(i, corner, meets(s, i, corner));
                 }
             }
         }
 
-        private void spring(int person, int corner, int meeting) {
+        private void snaps(int person, int corner, int meeting) {
             if (meeting == NOTHING) {
                 return;
             }
