@@ -1002,8 +1002,9 @@ public final class TrapCorner {
             return pos < tape.length && tape.bytes[pos] >= '0' && tape.bytes[pos] <= '9';
         }
 
-        /** A number that stands at pos; NONE, with the fault set, if none does or it has too many digits. */
+        /** The number that comes next; NONE, with the fault set, if none does or it has too many digits. */
         int number(int mostDigits) {
+            sign();
             int value = 0;
             int digits = 0;
             while (digits < mostDigits && digitHere()) {
@@ -1062,19 +1063,43 @@ public final class TrapCorner {
         private boolean readsClause() {
             int letter = sign();
             if (letter == 's' && !ruled) {
-                ruled = true;
-                pos++;
-                return readsItems(RULE_LETTERS, RULE_LOW, RULE_HIGH, RULE_USUAL) && draft.setRules(item);
+                return readsRules();
             }
             if (letter == 'c' && draft.corners < MOST_CORNERS) {
-                pos++;
-                return readsItems(CORNER_LETTERS, CORNER_LOW, CORNER_HIGH, CORNER_USUAL) && draft.addCorner(item);
+                return readsCorner();
             }
             if (letter == 'p' && draft.people < MOST_PEOPLE) {
-                pos++;
-                return readsItems(PERSON_LETTERS, PERSON_LOW, PERSON_HIGH, PERSON_USUAL) && draft.addPerson(item);
+                return readsPerson();
             }
             return fails(pos);
+        }
+
+        private boolean readsRules() {
+            pos++;
+            ruled = true;
+            if (!readsItems(RULE_LETTERS, RULE_LOW, RULE_HIGH, RULE_USUAL)) {
+                return false;
+            }
+            draft.setRules(item);
+            return true;
+        }
+
+        private boolean readsCorner() {
+            pos++;
+            if (!readsItems(CORNER_LETTERS, CORNER_LOW, CORNER_HIGH, CORNER_USUAL)) {
+                return false;
+            }
+            draft.addCorner(item);
+            return true;
+        }
+
+        private boolean readsPerson() {
+            pos++;
+            if (!readsItems(PERSON_LETTERS, PERSON_LOW, PERSON_HIGH, PERSON_USUAL)) {
+                return false;
+            }
+            draft.addPerson(item);
+            return true;
         }
 
         private boolean readsItems(String letters, int[] low, int[] high, int[] usual) {
@@ -1092,24 +1117,16 @@ public final class TrapCorner {
                 }
                 told |= 1 << k;
                 pos++;
-                if (!readsValue(k, low[k], high[k])) {
+                int value = number(2);
+                if (value == NONE) {
                     return false;
                 }
+                if (value < low[k] || value > high[k]) {
+                    return fails(pos - 1);
+                }
+                item[k] = value;
             }
             return fails(pos);
-        }
-
-        private boolean readsValue(int k, int low, int high) {
-            sign();
-            int value = number(2);
-            if (value == NONE) {
-                return false;
-            }
-            if (value < low || value > high) {
-                return fails(pos - 1);
-            }
-            item[k] = value;
-            return true;
         }
     }
 
@@ -1386,21 +1403,19 @@ public final class TrapCorner {
             people = 0;
         }
 
-        boolean setRules(int[] item) {
+        void setRules(int[] item) {
             takes = item[0];
             coins = item[1];
             old = item[2];
-            return true;
         }
 
-        boolean addCorner(int[] item) {
+        void addCorner(int[] item) {
             crumb[corners] = item[0];
             spring[corners] = item[1];
             corners++;
-            return true;
         }
 
-        boolean addPerson(int[] item) {
+        void addPerson(int[] item) {
             motive[people] = item[0];
             greed[people] = item[1];
             wary[people] = item[2];
@@ -1408,7 +1423,6 @@ public final class TrapCorner {
             to[people] = item[4];
             way[people] = item[5];
             people++;
-            return true;
         }
 
         /** What only the whole text can tell: enough of each, and everyone between two CORNERS that are there. */

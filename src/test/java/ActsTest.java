@@ -172,6 +172,19 @@ public final class ActsTest {
         // as much as takes one is enough, one less is not
         Check.same("pull 12, takes 12", Check.city("st12;c;ck1s5;pg4w1").day(), 1);
         Check.same("pull 12, takes 13", Check.city("st13;c;ck1s5;pg4w1").day(), 0);
+        // one is pulled and another is not, at the same corner
+        Check.same("greed 0 and 9", Check.city("c;ck1s5;pg0;pg9").day(), 1);
+        TrapCorner v = Check.city("c;ck1s5;pg0;pg9");
+        Check.same("caught(0)", v.caught(0), -1);
+        Check.same("caught(1)", v.caught(1), 1);
+        // as many as there can be: each is taken where his walk ends
+        TrapCorner six = Check.city("ck1;ck2;ck3;ck1;ck2;pm1a0b3;pm2a3b4;pm3a0b2;pm1a3b0;pm2a4b1;pm3a1b2", "y:m*40");
+        Check.same("day() of six", six.day(), 5);
+        Check.same("taken", six.log(0, 0), 31);
+        int[] springs = {4, 4, 4, 4, 4};
+        for (int c = 0; c < 5; c++) {
+            Check.same("spring of " + c, six.corner(c, 1), springs[c]);
+        }
         // the law asks for the day and the times as they are
         TrapCorner d = Check.city("so9;c;ck1s9;p", "y:d=1?40;y:n*9");
         int[] taken = {0, 1, 1, 1};
@@ -371,6 +384,8 @@ public final class ActsTest {
         Check.same("years of MIN", x.years(Integer.MIN_VALUE, 1), -1);
         Check.unchanged("what is refused", x, before);
         Check.same("years without a city", new TrapCorner().years(1, 1), -1);
+        Check.same("years(1, 1)", x.years(1, 1), 26);
+        Check.same("years(30, 1)", x.years(30, 1), 56);
     }
 
     private static void promise17dogsAndDraws() {
@@ -515,6 +530,15 @@ public final class ActsTest {
             Check.same("log(" + i + ", 2)", x.log(i, 2), 85 - i);
         }
         Check.same("log(0, 1): his cane", x.log(0, 1), 1);
+        x.about(0);
+        x.about(1);
+        x.crumb(1, 0);
+        x.day();
+        Check.same("log(0, 1): no cane", x.log(0, 1), 0);
+        Check.same("log(1, 1): his cane", x.log(1, 1), 1);
+        for (int i = 0; i < 4; i++) {
+            x.undo();
+        }
         Check.same("log(0, 0): nobody", x.log(0, 0), 0);
         Check.same("log(60, 2)", x.log(60, 2), -1);
         Check.same("log(-1, 2)", x.log(-1, 2), -1);
@@ -525,14 +549,15 @@ public final class ActsTest {
         }
         Check.same("log of MAX", x.log(Integer.MAX_VALUE, 0), -1);
         Check.same("log of MIN", x.log(Integer.MIN_VALUE, 0), -1);
-        for (int i = 0; i < 40; i++) {
+        for (int i = 0; i < 36; i++) {
             x.undo();
         }
-        Check.same("count(6) with forty acts undone", x.count(6), 45);
-        Check.same("count(11)", x.count(11), 45);
-        Check.same("log(0, 2)", x.log(0, 2), 65);
-        Check.same("log(44, 2)", x.log(44, 2), 21);
-        Check.same("log(44, 0)", x.log(44, 0), 1);
+        Check.same("undo()", x.undo(), -1);
+        Check.same("count(6) with forty acts undone", x.count(6), 47);
+        Check.same("count(11)", x.count(11), 47);
+        Check.same("log(0, 2)", x.log(0, 2), 67);
+        Check.same("log(46, 2)", x.log(46, 2), 21);
+        Check.same("log(46, 0)", x.log(46, 0), 1);
         rowsComeBack();
     }
 

@@ -21,6 +21,7 @@ public final class ApartTest {
         promise35lasts();
         promise36yearly();
         nothingChanges();
+        nothingIsStale();
         Check.close();
     }
 
@@ -127,6 +128,9 @@ public final class ApartTest {
         sums("y:[9999*100+9999-999*1000]/100", 10);
         sums("y:[0-9999*100-9999+999*1000]/100+20", 10);
         sums("y:1000*1000-999*1000-990", 10);
+        sums("y:1000*1000+1-999*1000-999", 1);
+        sums("y:0-1000*1000-1+999*1000+1001", 1);
+        sums("y:1001*1000-999*1000-999", 1);
         sums("y:[[[[[[m+1]*2]+1]*2]+1]*2]", 22);
         sums(" y : g * [ s - w ] + 1 ", 13);
         TrapCorner x = Check.city("so9;c;ck1s5;pm1g9w2", "y:10*n+d+w+s*0");
@@ -242,6 +246,18 @@ public final class ApartTest {
         baits(u, 4, 111, 2);
         baits(u, 5, 111, 1);
         baits(u, 1, 1, 0);
+        // a higher row, if by it fewer others are taken: by 11 one is, by 100 none
+        baits(Check.city("c;c;c;c;pa1b3;pa0b3", "y:40"), 2, 100, 0);
+        // every kind of crumb at every corner
+        for (int c = 0; c < 5; c++) {
+            for (int m = 1; m <= 3; m++) {
+                int row = m;
+                for (int i = c; i < 4; i++) {
+                    row *= 10;
+                }
+                baits(Check.city("c;c;c;c;c;pm" + m + "a" + (c + 4) % 5 + "b" + c, "y:m*40"), 1, row, 0);
+            }
+        }
         // coins do not matter
         baits(Check.city("sc0;c;cs9;pg9w0"), 1, 1, 0);
     }
@@ -341,6 +357,19 @@ public final class ApartTest {
         x.seen(0, 9, 3, false);
         Check.same("ask(0, 3): nothing fits", x.ask(0, 3), -1);
         Check.same("ask(1, 3): of another", x.ask(1, 3), 1);
+        // {10, 20, 21, 22, 30 .. 39}: by 7 none, 2 and 9 of 14 are taken
+        TrapCorner z = Check.city("c;c;pw0");
+        z.seen(0, 7, 1, false);
+        z.seen(0, 3, 2, false);
+        Check.same("moves(0, -1)", z.moves(0, -1), 14);
+        Check.same("ask(0, 7)", z.ask(0, 7), 3);
+        // {20, 21, 22, 30, 31}: by 9 none, 3 and 2 of 5
+        TrapCorner w = Check.city("c;c;p", "y:m=1?g+s");
+        w.seen(0, 9, 1, false);
+        w.seen(0, 5, 2, false);
+        w.seen(0, 6, 3, false);
+        Check.same("moves(0, -1)", w.moves(0, -1), 5);
+        Check.same("ask(0, 9)", w.ask(0, 9), 2);
         // told wary counts, not what it is now
         TrapCorner y = Check.city("so9;c;ck1s9;pg9w0");
         y.seen(0, 9, 2, true);
@@ -451,6 +480,9 @@ public final class ApartTest {
         // he flees round the corner, the baiter lays nothing then; he comes back then: no rest
         rests(Check.city("c;c;c;pb2", "y:40"), 0, 1, 1);
         rests(Check.city("c;c;c;pb2r1", "y:40"), 0, 1, 1);
+        // one whom the third crumb alone pulls
+        rests(Check.city("c;c;pm3", "y:m*40"), 0, 1, 30, 31);
+        rests(Check.city("c;c;pm1", "y:m*40"), 0, 1, 10, 11);
         // by 1 is the shorter way: with nothing there he goes it, with a crumb he flees: none rests
         rests(Check.city("c;c;c;c;c;pb2", "y:40"), 0, 1);
         for (int wild : Check.WILD) {
@@ -545,6 +577,62 @@ public final class ApartTest {
         TrapCorner y = Check.city("so9;c;ck1s9;p", "y:40");
         y.day();
         Check.same("yearly from now on", y.yearly(0), 8);
+    }
+
+    /** Each answer is by the law that holds when it is asked for, whatever was asked before. */
+    private static void nothingIsStale() {
+        TrapCorner x = Check.city("so2;c;ck1;c;pb2;pb2");
+        Check.tell(x, 1, "y:0");
+        Check.tell(x, 1, "y:40");
+        for (int i = 0; i < 4; i++) {
+            x.law(i % 2);
+            boolean takes = i % 2 == 1;
+            Check.same("caught(0)", x.caught(0), takes ? 1 : -1);
+            x.law(1 - i % 2);
+            x.caught(0);
+            x.law(i % 2);
+            Check.same("baits(1, 0)", x.baits(1, 0), takes ? 1 : -1);
+            x.law(1 - i % 2);
+            x.caught(0);
+            x.law(i % 2);
+            Check.same("safe(0)", x.safe(0), 1);
+            Check.same("game(0, 1, 1, 0, 0)", x.game(0, 1, 1, 0, 0), takes ? 4 : -2);
+            x.law(1 - i % 2);
+            x.game(0, 1, 1, 0, 0);
+            x.law(i % 2);
+            Check.same("game(0, 1, 1, 0, 1)", x.game(0, 1, 1, 0, 1), takes ? -8 : -2);
+            x.law(1 - i % 2);
+            x.caught(0);
+            x.law(i % 2);
+            Check.same("odds(0, 0)", x.odds(0, 0), takes ? 1000000000 : 0);
+            x.law(1 - i % 2);
+            x.caught(0);
+            x.law(i % 2);
+            Check.same("all(8)", x.all(8), takes ? 1 : 0);
+            x.law(1 - i % 2);
+            x.caught(0);
+            x.law(i % 2);
+            Check.same("lasts(1)", x.lasts(1), -1);
+            Check.same("yearly(0)", x.yearly(0), takes ? 2 : 0);
+        }
+        x.law(1);
+        x.day();
+        x.day();
+        x.law(0);
+        x.caught(0);
+        x.law(1);
+        Check.same("all(9)", x.all(9), 1);
+        x.law(0);
+        x.caught(0);
+        x.law(1);
+        Check.same("day()", x.day(), 0);
+        Check.same("log(0, 1)", x.log(0, 1), 1);
+        // by another way: the shorter one is the longer one's other side
+        TrapCorner y = Check.city("c;ck1;c;c;pb2", "y:0");
+        Check.same("safe(0)", y.safe(0), 0);
+        Check.tell(y, 1, "y:40");
+        y.law(1);
+        Check.same("safe(0)", y.safe(0), 1);
     }
 
     private static void nothingChanges() {

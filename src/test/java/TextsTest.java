@@ -12,6 +12,7 @@ public final class TextsTest {
         promise4sorts();
         promise5textOfCity();
         promise5newCity();
+        promise5smallerCity();
         promise5textOfLawAndPlan();
         promise20step();
         Check.close();
@@ -45,7 +46,12 @@ public final class TextsTest {
             Check.same("feed", x.feed(0x20202020, 0x20202020, 0x20202020, 0x20202020, 0x20202020), 20 * i);
         }
         Check.same("feed to 237", x.feed(0x20202020, 0x20202020, 0x20202020, 0x20202020, 0x20), 237);
-        Check.same("feed beyond 240", x.feed(0x20202020, 0, 0, 0, 0), -1);
+        for (int i = 0; i < 5; i++) {
+            int[] five = new int[5];
+            five[i] = 0x20202020;
+            Check.same("feed beyond 240", x.feed(five[0], five[1], five[2], five[3], five[4]), -1);
+        }
+        Check.same("feed beyond 240 by all", x.feed(32, 32, 32, 32, 32), -1);
         Check.same("count(4) is as before", x.count(4), 237);
         Check.same("feed to 240", x.feed(0x79, 0, 0x3a000000, 0, 0x31), 240);
         Check.same("fault(1): they stand where they came", x.fault(1), -1);
@@ -307,7 +313,7 @@ public final class TextsTest {
         x.dogs(7);
         x.day();
         x.constable(2);
-        x.seen(0, 1, 1, true);
+        x.seen(0, 1, 1, false);
         x.image();
         Check.put(x, "c;p");
         String before = Check.whole(x);
@@ -327,6 +333,30 @@ public final class TextsTest {
         Check.same("step of the plan that was", x.step(0, 1, 2), 1);
         Check.noSuchElement(x, 1, 0);
         Check.same("moves(0, -1): what was seen is gone", x.moves(0, -1), 30);
+    }
+
+    /** Nothing of a larger city shows in a smaller one. */
+    private static void promise5smallerCity() {
+        TrapCorner x = Check.city("st30c99o1;cs0;cs0;cs9;ck3s9;ck3s9;pa2b4w0g1;pw9g9a3b1;pm3w9g9a1b0;pm3a4b0");
+        x.day();
+        Check.same("text(0)", Check.tell(x, 0, "s;cs0;cs0;p"), 1);
+        int[] rules = {8, 20, 3};
+        for (int i = 0; i < 3; i++) {
+            Check.same("rule(" + i + ")", x.rule(i), rules[i]);
+        }
+        int[] all = {1, 0, 0, 0, 0, 1, 0, 3, 0, 0, 0};
+        for (int i = 0; i < all.length; i++) {
+            Check.same("all(" + i + ")", x.all(i), all[i]);
+        }
+        Check.same("passes(0)", x.passes(0), 0);
+        Check.same("passes(1)", x.passes(1), 1);
+        Check.same("shares(0, 9)", x.shares(0, 9), 0);
+        Check.same("kinds(3)", x.kinds(3), 0);
+        Check.same("count(7)", x.count(7), 0);
+        Check.same("corner(2, 0)", x.corner(2, 0), -1);
+        Check.same("text(0) with rules again", Check.tell(x, 0, "st3;c;c;p"), 1);
+        Check.same("text(0) without", Check.tell(x, 0, "c;c;p"), 1);
+        Check.same("rule(0)", x.rule(0), 8);
     }
 
     private static void promise5textOfLawAndPlan() {
