@@ -11,8 +11,16 @@ final class Check {
 
     private static int wrong;
     private static int right;
+    private static int bounds;
+    private static String bound = "";
 
     private Check() {
+    }
+
+    /** Names the sentence of the document that the checks behind it are of. */
+    static void bound(int promise, String sentence) {
+        bound = "promise " + promise + ", " + sentence + ": ";
+        bounds++;
     }
 
     static void same(String what, long got, long want) {
@@ -20,7 +28,7 @@ final class Check {
             right++;
         } else {
             wrong++;
-            System.out.println(what + " answered " + got + ", due is " + want);
+            System.out.println(bound + what + " answered " + got + ", due is " + want);
         }
     }
 
@@ -105,7 +113,7 @@ final class Check {
     }
 
     static void close() {
-        System.out.println(right + " answers as due, " + wrong + " not");
+        System.out.println(right + " answers as due, " + wrong + " not" + (bounds > 0 ? ", of " + bounds + " bounds" : ""));
         if (wrong > 0) {
             System.exit(1);
         }
