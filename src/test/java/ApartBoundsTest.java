@@ -289,6 +289,15 @@ public final class ApartBoundsTest {
         sum("y:!1=1|1=1?7;y:9", 7);
         sum("y:!(1=1|1=1)?7;y:9", 9);
         sum("y:!1=2&1=2?7;y:9", 9);
+        Check.bound(23, "what holds is one thing, by whichever sign, also behind & and |");
+        for (String holds : new String[] {"1=1", "1<2", "2>1", "!1=2", "!2<1", "!1>2", "!!1=1", "(1<2)", "(1=2|2>1)"}) {
+            for (String other : new String[] {"1=1", "1<2", "2>1", "!1=2"}) {
+                sum("y:" + holds + "&" + other + "?7;y:9", 7);
+                sum("y:!(" + holds + "&" + other + ")?7;y:9", 9);
+                sum("y:" + holds + "|!" + other + "?7;y:9", 7);
+                sum("y:!" + holds + "|!" + other + "?7;y:9", 9);
+            }
+        }
         Check.bound(23, "six ! within one another");
         sum("y:!!!!!!1=1?7;y:9", 7);
         sum("y:!!!!!1=1?7;y:9", 9);
@@ -390,11 +399,11 @@ public final class ApartBoundsTest {
         bait(Check.city("c;c;c;c;pa1b3;pa0b3", "y:40"), 2, 100, 0);
         bait(Check.city("c;c;c;pb2;pb2", "y:40"), 2, 11, 1);
         bait(Check.city("c;c;c;c;pb3;pb3;pb3", "y:40"), 4, 111, 2);
-        Check.bound(25, "of several the fewest CRUMBS other than 0, though the row is higher");
-        // the one who goes to 1 is taken by 1 at 1 alone; 011 is a crumb more
+        Check.bound(25, "of several the fewest CRUMBS other than 0");
+        // by 011, 110 and 111 he is taken, too; a crumb that takes nobody can always be left out
         bait(Check.city("c;c;c;pb1", "y:40"), 1, 10, 0);
-        // the old one springs 1: two crumbs would let the second by; one at 1 is enough for the first
         bait(Check.city("c;c;c;c;pa0b1;pa2b3", "y:40"), 1, 100, 0);
+        bait(Check.city("c;c;c;c;pa0b1;pa2b3", "y:40"), 3, 101, 0);
         Check.bound(25, "then the least row");
         bait(Check.city("c;c;c;c;c;pa0b4", "y:40"), 1, 1, 0);
         bait(Check.city("c;c;c;c;c;pa0b4", "y:m*40"), 1, 1, 0);
@@ -564,12 +573,28 @@ public final class ApartBoundsTest {
             Check.same("moves(0, -1)", z.moves(0, -1), 20);
             Check.same("ask(0, 1)", z.ask(0, 1), k);
         }
+        Check.bound(28, "least apart in number, whichever are more");
+        // 10 .. 15, 20 .. 22, 30: by 1 six and four, by 2 three and seven
+        TrapCorner w = Check.city("c;c;p", "y:m=1&g+s>8?40");
+        w.seen(0, 3, 1, false);
+        w.seen(0, 6, 2, false);
+        w.seen(0, 8, 3, false);
+        Check.same("moves(0, -1)", w.moves(0, -1), 10);
+        Check.same("ask(0, 9)", w.ask(0, 9), 1);
+        // 10 .. 12, 20 .. 25, 30: by 2 six and four
+        TrapCorner u = Check.city("c;c;p", "y:m=1&g+s>8?40");
+        u.seen(0, 6, 1, false);
+        u.seen(0, 3, 2, false);
+        u.seen(0, 8, 3, false);
+        Check.same("ask(0, 9)", u.ask(0, 9), 2);
         Check.bound(28, "more of the others and more of those are as far apart");
-        // greeds 0 .. 8 are taken by 1 with spring 1: 9 of 10, and by 2 one of 10
-        TrapCorner v = Check.city("c;c;p", "y:m=1?s*10;y:g*s");
-        Check.same("moves(0, -1)", v.moves(0, -1), 30);
-        // by a crumb: ten are his (10), of the other twenty those of greed 8 and 9: 14 of 30
-        Check.same("ask(0, 1)", v.ask(0, 1), 1);
+        // 10 .. 13, 20 .. 25, no one of 3: by 1 four and six, by 2 six and four
+        TrapCorner t = Check.city("c;c;p", "y:m=1&g+s>8?40");
+        t.seen(0, 5, 1, false);
+        t.seen(0, 3, 2, false);
+        t.seen(0, 9, 3, false);
+        Check.same("moves(0, -1)", t.moves(0, -1), 10);
+        Check.same("ask(0, 9)", t.ask(0, 9), 1);
     }
 
     private static void safe() {

@@ -308,6 +308,10 @@ public final class DayBoundsTest {
         y.day();
         y.day();
         Check.same("canes", y.log(0, 1), 0);
+        TrapCorner w = Check.city("so1;c;ck1s9;ck2s9;pb2", "y:m*40");
+        w.day();
+        w.day();
+        Check.same("canes: at his own crumb alone", w.log(0, 1), 1);
         Check.bound(11, "a CANE at a trap without a SPRING or a CRUMB is not used");
         TrapCorner z = Check.city("so1;c;ck1s1;p", "y:40");
         z.day();
@@ -545,6 +549,14 @@ public final class DayBoundsTest {
             Check.same("undo()", y.undo(), n - 1);
         }
         Check.same("as at first", Check.whole(y).equals(was[0]), true);
+        Check.bound(17, "each DAY of them has its row in the LOG");
+        TrapCorner logged = Check.city("so9;ck1s9;ck1s9;p;pa1b0", "y:d=1|d=3?40");
+        logged.years(4, 1);
+        Check.same("count(11)", logged.count(11), 4);
+        for (int i = 0; i < 4; i++) {
+            Check.same("someone was taken on the day " + (3 - i), logged.log(i, 0) > 0, i % 2 == 0);
+        }
+        Check.same("coins", logged.log(0, 2), logged.rule(1));
         Check.bound(17, "the same seed brings the same, another one another");
         z.years(10, 3);
         Check.same("seed 3", Check.whole(z).equals(was[10]), true);
@@ -761,6 +773,15 @@ public final class DayBoundsTest {
         Check.same("log(0, 1)", z.log(0, 1), 5);
         Check.same("log(0, 0)", z.log(0, 0), 0);
         Check.same("log(1, 1)", z.log(1, 1), 0);
+        z.constable(4);
+        z.day();
+        Check.bound(19, "the latest (i 0), the one ahead of it (1) ..");
+        int[][] rows = {{1, 4, 23}, {0, 5, 22}, {3, 0, 22}};
+        for (int i = 0; i < 3; i++) {
+            for (int what = 0; what < 3; what++) {
+                Check.same("log(" + i + ", " + what + ")", z.log(i, what), rows[i][what]);
+            }
+        }
     }
 
     private static void sixtyRows() {

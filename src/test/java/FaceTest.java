@@ -35,7 +35,23 @@ public final class FaceTest {
         String source = Files.readString(Path.of("src/main/java/TrapCorner.java"));
         forbidden(source);
         shortMethods(source);
+        boundsOfEachPromise();
         Check.close();
+    }
+
+    /** No promise is without boundary cases that are tested by themselves. */
+    private static void boundsOfEachPromise() throws Exception {
+        TreeSet<Integer> tested = new TreeSet<>();
+        for (String name : new String[] {"TextBounds", "DayBounds", "ApartBounds", "Refused"}) {
+            String test = Files.readString(Path.of("src/test/java/" + name + "Test.java"));
+            Matcher m = Pattern.compile("Check\\.bound\\((\\d+),").matcher(test);
+            while (m.find()) {
+                tested.add(Integer.parseInt(m.group(1)));
+            }
+        }
+        for (int promise = 1; promise <= 43; promise++) {
+            Check.same("bounds of promise " + promise + " are tested", tested.contains(promise), true);
+        }
     }
 
     private static String sign(Method m) {

@@ -857,6 +857,14 @@ public final class TextBoundsTest {
         Check.same("step(2, 0, 1)", x.step(2, 0, 1), 1);
         Check.same("step(2, 15, 1)", x.step(2, 15, 1), 8);
         Check.same("step(2, 16, 0)", x.step(2, 16, 0), Check.HIDDEN);
+        Check.bound(20, "any two digits");
+        Check.tell(x, 2, "k99;k98;k89;k88;k00;k10;k01;k11");
+        int[] pairs = {99, 98, 89, 88, 0, 10, 1, 11};
+        for (int i = 0; i < pairs.length; i++) {
+            Check.same("step(3, " + i + ", 0)", x.step(3, i, 0), 1);
+            Check.same("step(3, " + i + ", 1)", x.step(3, i, 1), pairs[i] / 10);
+            Check.same("step(3, " + i + ", 2)", x.step(3, i, 2), pairs[i] % 10);
+        }
         Check.bound(20, "a CITY is not needed, and another one changes nothing");
         Check.tell(x, 0, "c;c;p");
         Check.same("step(1, 0, 1)", x.step(1, 0, 1), 9);
