@@ -254,6 +254,16 @@ public final class DayBoundsTest {
         Check.same("8 and 2 less 3", Check.city("c;ck1s2;pg4w3").day(), 0);
         Check.same("9 less 1 by another crumb", Check.city("c;ck2s9;pg9w1").day(), 1);
         Check.same("9 less 2 by another crumb", Check.city("c;ck2s9;pg9w2").day(), 0);
+        Check.bound(11, "each is pulled by himself, at each CORNER by itself");
+        for (int a = 0; a < 3; a++) {
+            for (int b = 0; b < 3; b++) {
+                String corners = ";ck1s9;ck1s9;ck1s9";
+                String one = ";pg9w0a" + (a + 2) % 3 + "b" + a;
+                String other = ";pg0w9a" + (b + 2) % 3 + "b" + b;
+                Check.same("the first alone, " + a + " and " + b, Check.city("s" + corners + one + other).all(8), 1);
+                Check.same("the second alone, " + a + " and " + b, Check.city("s" + corners + other + one).all(8), 2);
+            }
+        }
         Check.bound(11, "all of a DAY is as that DAY began: a SPRING less, TIMES more, one more WARY come behind");
         // the second comes to another corner; what the first did there does not matter for him
         TrapCorner x = Check.city("st9;c;ck1s9;ck1s9;pb1;pa1b2", "y:s");
